@@ -505,23 +505,15 @@ public final class WayShares {
             }
         }
 
-        boolean isFine() {
-            return wrong == NONE;
-        }
-
         /** The next sign that is no blank; none is seen behind a fault, so that all reading ends there. */
         int sign() {
-            if (!isFine()) {
+            if (wrong != NONE) {
                 return END;
             }
             while (at < size && signs[at] == ' ') {
                 at++;
             }
-            return signHere();
-        }
-
-        private int signHere() {
-            return at >= 0 && at < size ? signs[at] & 255 : END;
+            return at < size ? signs[at] & 255 : END;
         }
 
         boolean takes(int sign) {
@@ -533,13 +525,15 @@ public final class WayShares {
         }
 
         void expect(int sign) {
-            if (!takes(sign)) {
+            if (sign() == sign) {
+                at++;
+            } else {
                 fail(at);
             }
         }
 
-        boolean isDigitHere() {
-            return isWithin(signHere(), '0', '9');
+        private boolean isDigitHere() {
+            return at < size && signs[at] >= '0' && signs[at] <= '9';
         }
 
         int number(int mostDigits) {
@@ -547,7 +541,7 @@ public final class WayShares {
             int value = 0;
             int digits = 0;
             while (digits < mostDigits && isDigitHere()) {
-                value = value * 10 + signHere() - '0';
+                value = value * 10 + signs[at] - '0';
                 digits++;
                 at++;
             }
