@@ -56,6 +56,27 @@ final class Check {
         return number;
     }
 
+    /** A caret in a text stands ahead of the byte that is wrong; without one the text is told. */
+    static void faults(int sort, String... marked) {
+        for (String one : marked) {
+            fault(sort, one.replace("^", ""), one.indexOf('^'));
+        }
+    }
+
+    /** This FAULT (-1: none), by the program and by the oracle; the text is told if there is none, and stays else. */
+    static WayShares fault(int sort, String text, int wrong) {
+        WayShares x = new WayShares();
+        tape(x, text);
+        due("fault(" + sort + ") of '" + text + "'", x.fault(sort), wrong);
+        due("oracle of '" + text + "'", sort == 0 ? Oracle.roadFault(text) : Oracle.ruleFault(text), wrong);
+        int answer = x.text(sort);
+        due("text(" + sort + ") of '" + text + "' is refused", answer < 0, wrong >= 0);
+        due("TAPE behind '" + text + "'", x.count(3), wrong >= 0 ? text.length() : 0);
+        due("RIDERS behind '" + text + "'", x.count(0), wrong < 0 && sort == 0 ? answer : 0);
+        due("RULES behind '" + text + "'", x.count(2), wrong < 0 && sort == 1 ? 1 : 0);
+        return x;
+    }
+
     static WayShares road(String text) {
         WayShares x = new WayShares();
         tape(x, text);

@@ -38,24 +38,10 @@ public final class FaultTest {
     };
 
     public static void main(String[] args) {
-        check(0, ROADS);
-        check(1, RULES);
+        Check.faults(0, ROADS);
+        Check.faults(1, RULES);
         longTexts();
         Check.finish("FaultTest");
-    }
-
-    private static void check(int sort, String[] marked) {
-        for (String one : marked) {
-            int wrong = one.indexOf('^');
-            String text = one.replace("^", "");
-            WayShares x = new WayShares();
-            Check.tape(x, text);
-            Check.due("fault(" + sort + ") of '" + text + "'", x.fault(sort), wrong);
-            Check.due("oracle of '" + text + "'", sort == 0 ? Oracle.roadFault(text) : Oracle.ruleFault(text), wrong);
-            int answer = x.text(sort);
-            Check.due("text(" + sort + ") of '" + text + "' is refused", answer < 0, wrong >= 0);
-            Check.due("TAPE behind '" + text + "'", x.count(3), wrong >= 0 ? text.length() : 0);
-        }
     }
 
     private static void longTexts() {

@@ -5,6 +5,8 @@ import java.util.Random;
 public final class OracleTest {
     private static final int RUNS = 260;
     private static final int CALLS = 90;
+    /** Some runs take as many calls as an object is made for. */
+    private static final int MANY_CALLS = 512;
     private static final int TEXTS = 60000;
 
     public static void main(String[] args) {
@@ -174,7 +176,8 @@ public final class OracleTest {
             feed(x, o, told, name);
             Check.due(name + "text(0)", x.text(0), o.text(0));
         }
-        for (int k = 0; k < CALLS; k++) {
+        int calls = run % 20 == 0 ? MANY_CALLS : CALLS;
+        for (int k = 0; k < calls; k++) {
             compareCall(x, o, random, name);
         }
         for (int what = -1; what < 12; what++) {
